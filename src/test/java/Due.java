@@ -40,17 +40,28 @@ final class Due {
         return suite;
     }
 
-    /** The corners, by every engine: their number, each of them, and none before or behind. */
+    /** The corners, by every engine. */
     static void corners(HullSuite suite, int... want) {
+        forEachEngine(engine -> corners(suite, engine, want));
+    }
+
+    /** The corners, by every engine on a new object, so that no engine can use what another left. */
+    static void cornersAnew(int[] places, int... want) {
         forEachEngine(engine -> {
-            is("corners(" + engine + ")", suite.corners(engine), want.length);
-            for (int i = 0; i < want.length; i++) {
-                is("corner(" + engine + ", " + i + ")", suite.corner(engine, i), want[i]);
-            }
-            for (int i : new int[] {-1, want.length, Integer.MIN_VALUE, Integer.MAX_VALUE}) {
-                is("corner(" + engine + ", " + i + ")", suite.corner(engine, i), HullSuite.BAD);
-            }
+            HullSuite suite = with(places);
+            corners(suite, engine, want);
         });
+    }
+
+    /** The number of corners, each of them, and none before or behind. */
+    private static void corners(HullSuite suite, int engine, int[] want) {
+        is("corners(" + engine + ")", suite.corners(engine), want.length);
+        for (int i = 0; i < want.length; i++) {
+            is("corner(" + engine + ", " + i + ")", suite.corner(engine, i), want[i]);
+        }
+        for (int i : new int[] {-1, want.length, Integer.MIN_VALUE, Integer.MAX_VALUE}) {
+            is("corner(" + engine + ", " + i + ")", suite.corner(engine, i), HullSuite.BAD);
+        }
     }
 
     static void finish() {

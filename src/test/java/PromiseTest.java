@@ -18,6 +18,7 @@ public final class PromiseTest {
         remove();
         points();
         cornersOfFewPoints();
+        cornersAnew();
         cornersOfFlatHulls();
         cornersOfFullHulls();
         cornersOfBowl();
@@ -140,6 +141,13 @@ public final class PromiseTest {
         Due.corners(Due.with(at(4, 8), at(4, 3), at(4, 8)), at(4, 3), at(4, 8));
         Due.corners(Due.with(at(3, 1), at(1, 3), at(0, 1)), at(0, 1), at(3, 1), at(1, 3));
         Due.corners(Due.with(at(0, 1), at(1, 3), at(3, 1)), at(0, 1), at(3, 1), at(1, 3));
+    }
+
+    private static void cornersAnew() {
+        Due.cornersAnew(new int[] {});
+        Due.cornersAnew(new int[] {at(9, 9)}, at(9, 9));
+        Due.cornersAnew(new int[] {at(9, 9), at(1, 1), at(4, 4)}, at(1, 1), at(9, 9));
+        Due.cornersAnew(new int[] {at(3, 4), at(9, 9), at(1, 1), at(7, 2)}, at(1, 1), at(7, 2), at(9, 9), at(3, 4));
     }
 
     private static void cornersOfFlatHulls() {
