@@ -432,17 +432,14 @@ public final class HullSuite {
         return n;
     }
 
-    /** Of several as far out the one farthest from the side's start: only the ends are corners. */
+    /** Of several as far out the first: it is an end of their row, and only the ends are corners. */
     private int farthestOutside(int from, int to) {
         int best = NONE;
         int bestTurn = 0;
         for (int i = 0; i < spotCount; i++) {
-            int spot = spots[i];
-            int turned = turn(from, to, spot);
-            boolean fartherAlong = turned < 0 && turned == bestTurn
-                && squareOf(from, spot) > squareOf(from, best);
-            if (turned < bestTurn || fartherAlong) {
-                best = spot;
+            int turned = turn(from, to, spots[i]);
+            if (turned < bestTurn) {
+                best = spots[i];
                 bestTurn = turned;
             }
         }

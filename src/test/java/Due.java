@@ -3,10 +3,22 @@ import java.util.function.Consumer;
 /** Counts and prints the calls whose answer is not the one that is due. */
 final class Due {
     private static final int PRINTED = 50;
+    private static String sentence = "";
     private static int compared = 0;
     private static int wrong = 0;
 
     private Due() {
+    }
+
+    /** A test of one sentence of the document, whose words are told with each wrong answer. */
+    static void sentence(String words, Runnable test) {
+        sentence = "\"" + words + "\": ";
+        int before = compared;
+        test.run();
+        if (compared == before) {
+            report("nothing was compared");
+        }
+        sentence = "";
     }
 
     static void is(String call, long got, long want) {
@@ -64,6 +76,10 @@ final class Due {
         }
     }
 
+    static void area(HullSuite suite, int want) {
+        forEachEngine(engine -> is("area(" + engine + ")", suite.area(engine), want));
+    }
+
     static void finish() {
         System.out.println(wrong + " of " + compared + " answers are not as due");
         if (wrong != 0) {
@@ -74,7 +90,7 @@ final class Due {
     private static void report(String text) {
         wrong++;
         if (wrong <= PRINTED) {
-            System.out.println(text);
+            System.out.println(sentence + text);
         }
     }
 }

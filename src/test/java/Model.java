@@ -7,6 +7,8 @@ import java.util.TreeSet;
 /** The document's words taken one by one, slow and without any engine. */
 final class Model {
     private final TreeMap<Integer, Integer> points;
+    /** The corners when they have been asked for since the last change. */
+    private List<Integer> known = null;
 
     Model() {
         this(new TreeMap<>());
@@ -17,6 +19,7 @@ final class Model {
     }
 
     int add(int place) {
+        known = null;
         if (!isPlace(place)) {
             return HullSuite.BAD;
         }
@@ -29,6 +32,7 @@ final class Model {
     }
 
     int remove(int k) {
+        known = null;
         Integer place = points.remove(k);
         return place == null ? HullSuite.BAD : place;
     }
@@ -37,12 +41,27 @@ final class Model {
         return setOf(points.keySet());
     }
 
-    int[] placesOfPoints() {
-        return points.values().stream().mapToInt(Integer::intValue).toArray();
+    int corners(int engine) {
+        return isEngine(engine) ? corners().size() : HullSuite.BAD;
+    }
+
+    int corner(int engine, int i) {
+        return isEngine(engine) && i >= 0 && i < corners().size() ? corners().get(i) : HullSuite.BAD;
+    }
+
+    boolean agree(int engine, int other) {
+        return isEngine(engine) && isEngine(other);
+    }
+
+    private List<Integer> corners() {
+        if (known == null) {
+            known = findCorners();
+        }
+        return known;
     }
 
     /** The places of points that the hull of all others does not have, by their angle. */
-    List<Integer> corners() {
+    private List<Integer> findCorners() {
         List<Integer> corners = new ArrayList<>();
         for (int place : distinct()) {
             TreeSet<Integer> others = distinct();
@@ -64,8 +83,12 @@ final class Model {
         return corners;
     }
 
+    int area(int engine) {
+        return isEngine(engine) ? area() : HullSuite.BAD;
+    }
+
     /** By the shoelace formula. */
-    int area() {
+    private int area() {
         List<Integer> corners = corners();
         int sum = 0;
         for (int i = 0; i < corners.size(); i++) {
@@ -169,6 +192,10 @@ final class Model {
 
     private static boolean isPlace(int place) {
         return place >= 0 && place <= 4095;
+    }
+
+    private static boolean isEngine(int engine) {
+        return engine >= 0 && engine <= 5;
     }
 
     private static int setOf(Iterable<Integer> numbers) {

@@ -1,10 +1,9 @@
-import java.util.List;
 import java.util.Random;
 
-/** Runs of calls, the same at each start, whose answers are compared with the model's. */
+/** Runs of 512 calls, the same at each start, whose answers are compared with the model's. */
 public final class ReferenceTest {
-    private static final int RUNS = 240;
-    private static final int CHANGES = 40;
+    private static final int RUNS = 600;
+    private static final int CALLS = 512;
 
     private final Random random;
     private final int kind;
@@ -20,68 +19,106 @@ public final class ReferenceTest {
 
     public static void main(String[] args) {
         for (int run = 0; run < RUNS; run++) {
-            new ReferenceTest(run).play();
+            ReferenceTest test = new ReferenceTest(run);
+            for (int call = 0; call < CALLS; call++) {
+                test.oneCall(call);
+            }
         }
         Due.finish();
     }
 
-    private void play() {
-        for (int change = 0; change < CHANGES; change++) {
-            boolean growing = change < 10 || random.nextInt(3) > 0;
-            int number = random.nextInt(25);
-            int place = anyPlace();
-            if (growing) {
-                Due.is(name + "add(" + place + ")", suite.add(place), model.add(place));
-            } else {
-                Due.is(name + "remove(" + number + ")", suite.remove(number), model.remove(number));
-            }
-            Due.is(name + "points()", suite.points(), model.points());
-            if (change % 4 == 3) {
-                compareEngines();
-                compareMeasures();
-                comparePlaces();
-            }
+    /** Few changes and many questions, so that the model need not find the corners too often. */
+    private void oneCall(int call) {
+        int chance = random.nextInt(40);
+        if (call < 4 || chance < 3) {
+            add();
+        } else if (chance < 5) {
+            remove();
+        } else if (chance < 22) {
+            askAnEngine(random.nextInt(4));
+        } else if (chance < 30) {
+            askForAMeasure(random.nextInt(7));
+        } else {
+            askAboutAPlace();
         }
     }
 
-    private void compareEngines() {
-        List<Integer> corners = model.corners();
-        int area = model.area();
-        int[] want = corners.stream().mapToInt(Integer::intValue).toArray();
-        Due.corners(suite, want);
-        Due.cornersAnew(model.placesOfPoints(), want);
-        Due.forEachEngine(engine -> {
-            Due.is(name + "area(" + engine + ")", suite.area(engine), area);
-            Due.forEachEngine(other ->
-                Due.is(name + "agree(" + engine + ", " + other + ")", suite.agree(engine, other), true));
-        });
+    private void add() {
+        boolean none = random.nextInt(20) == 0;
+        int place = none ? Shapes.NO_PLACES[random.nextInt(Shapes.NO_PLACES.length)] : somePlace();
+        Due.is(name + "add(" + place + ")", suite.add(place), model.add(place));
     }
 
-    private void compareMeasures() {
-        Due.is(name + "border()", suite.border(), model.border());
-        Due.is(name + "farthest()", suite.farthest(), model.farthest());
-        Due.is(name + "triangle()", suite.triangle(), model.triangle());
-        Due.is(name + "places()", suite.places(), model.places());
-        for (int k = -1; k <= 24; k++) {
-            Due.is(name + "layer(" + k + ")", suite.layer(k), model.layer(k));
-        }
-        for (int i = 0; i < 10; i++) {
-            int dx = random.nextInt(133) - 66;
-            int dy = random.nextInt(133) - 66;
-            Due.is(name + "extreme(" + dx + ", " + dy + ")", suite.extreme(dx, dy), model.extreme(dx, dy));
+    private void remove() {
+        int k = someNumber();
+        Due.is(name + "remove(" + k + ")", suite.remove(k), model.remove(k));
+    }
+
+    private void askAnEngine(int question) {
+        int engine = random.nextInt(8) - 1;
+        int other = random.nextInt(8) - 1;
+        int i = random.nextInt(12) - 1;
+        switch (question) {
+            case 0:
+                Due.is(name + "corners(" + engine + ")", suite.corners(engine), model.corners(engine));
+                break;
+            case 1:
+                Due.is(name + "area(" + engine + ")", suite.area(engine), model.area(engine));
+                break;
+            case 2:
+                Due.is(name + "agree(" + engine + ", " + other + ")",
+                    suite.agree(engine, other), model.agree(engine, other));
+                break;
+            default:
+                Due.is(name + "corner(" + engine + ", " + i + ")", suite.corner(engine, i), model.corner(engine, i));
+                break;
         }
     }
 
-    private void comparePlaces() {
-        for (int i = 0; i < 30; i++) {
-            int place = i < 20 ? anyPlace() : random.nextInt(4200) - 50;
+    private void askForAMeasure(int question) {
+        int k = someNumber();
+        int dx = random.nextInt(133) - 66;
+        int dy = random.nextInt(133) - 66;
+        switch (question) {
+            case 0:
+                Due.is(name + "points()", suite.points(), model.points());
+                break;
+            case 1:
+                Due.is(name + "border()", suite.border(), model.border());
+                break;
+            case 2:
+                Due.is(name + "farthest()", suite.farthest(), model.farthest());
+                break;
+            case 3:
+                Due.is(name + "triangle()", suite.triangle(), model.triangle());
+                break;
+            case 4:
+                Due.is(name + "places()", suite.places(), model.places());
+                break;
+            case 5:
+                Due.is(name + "layer(" + k + ")", suite.layer(k), model.layer(k));
+                break;
+            default:
+                Due.is(name + "extreme(" + dx + ", " + dy + ")", suite.extreme(dx, dy), model.extreme(dx, dy));
+                break;
+        }
+    }
+
+    private void askAboutAPlace() {
+        int place = random.nextInt(4) == 0 ? random.nextInt(4200) - 52 : somePlace();
+        if (random.nextBoolean()) {
             Due.is(name + "holds(" + place + ")", suite.holds(place), model.holds(place));
+        } else {
             Due.is(name + "tangent(" + place + ")", suite.tangent(place), model.tangent(place));
         }
     }
 
+    private int someNumber() {
+        return random.nextInt(27) - 1;
+    }
+
     /** Close grids make many points in line and at one place; the whole plane makes few. */
-    private int anyPlace() {
+    private int somePlace() {
         switch (kind) {
             case 0:
                 return Due.at(random.nextInt(4), random.nextInt(4));
