@@ -59,6 +59,7 @@ public final class BoundaryTest {
         Due.sentence("10: BAD when place is not 0 .. 4095", BoundaryTest::holdsNoPlace);
         Due.sentence("14: 0 when it is on the border", BoundaryTest::layerOfTheBorder);
         Due.sentence("14: 1 more than without the border", BoundaryTest::layersWithin);
+        Due.sentence("14: all points on the border", BoundaryTest::layersWithoutAllOfTheBorder);
         Due.sentence("14: BAD when there is none", BoundaryTest::layerOfNone);
         Due.sentence("15: no point is on the left of the line", BoundaryTest::tangent);
         Due.sentence("15: of two such the one with the lesser square", BoundaryTest::tangentOfTwo);
@@ -142,9 +143,11 @@ public final class BoundaryTest {
         Due.is("remove(2)", suite.remove(2), 63);
         Due.is("remove(3)", suite.remove(3), at(0, 63));
         Due.is("remove(4)", suite.remove(4), 63);
-        HullSuite full = Due.with(Shapes.ROUND);
-        for (int k = 23; k >= 0; k--) {
-            Due.is("remove(" + k + ") of 24", full.remove(k), Shapes.ROUND[k]);
+        for (int[] shape : new int[][] {Shapes.HEAP, Shapes.FLAT, Shapes.ROUND, Shapes.ONION}) {
+            HullSuite full = Due.with(shape);
+            for (int k = 23; k >= 0; k--) {
+                Due.is("remove(" + k + ") of 24", full.remove(k), shape[k]);
+            }
         }
     }
 
@@ -397,6 +400,7 @@ public final class BoundaryTest {
         Due.is("of a falling line", Due.with(Shapes.FALLING).places(), 24);
         Due.is("of two with no place between", Due.with(0, at(63, 62)).places(), 2);
         Due.is("of a wedge", Due.with(Shapes.WEDGE).places(), 4);
+        Due.is("of 24 in layers", Due.with(Shapes.ONION).places(), 221);
         Due.is("of the whole", Due.with(Shapes.WHOLE).places(), 4096);
         Due.is("of all but place 0", Due.with(1, 64, 63, 4095, at(0, 63)).places(), 4095);
         Due.is("of all but place 4095", Due.with(0, 63, at(63, 62), at(62, 63), at(0, 63)).places(), 4095);
@@ -520,6 +524,19 @@ public final class BoundaryTest {
         checkLayers(new int[] {0, 63, at(0, 63), at(9, 9), at(9, 9), at(9, 9)}, 0, 0, 0, 1, 1, 1);
         checkLayers(new int[] {0, 63, at(0, 63), at(9, 9), at(10, 10), at(12, 12)}, 0, 0, 0, 1, 1, 1);
         checkLayers(new int[] {0, 63, at(0, 63), at(5, 5), at(9, 5), at(5, 9), at(6, 6)}, 0, 0, 0, 1, 1, 1, 2);
+    }
+
+    /** Not its corners alone, and every point of several at one place. */
+    private static void layersWithoutAllOfTheBorder() {
+        checkLayers(new int[] {0, 8, at(8, 8), at(0, 8), 4, at(8, 4), at(4, 8), at(0, 4), at(4, 4)},
+            0, 0, 0, 0, 0, 0, 0, 0, 1);
+        checkLayers(new int[] {0, 0, 0, 63, at(0, 63), at(9, 9), 63}, 0, 0, 0, 0, 0, 1, 0);
+        HullSuite suite = Due.with(Shapes.ONION);
+        for (int k = 23; k > 2; k--) {
+            Due.is("layer(" + k + "), the last", suite.layer(k), k / 3);
+            suite.remove(k);
+        }
+        Due.is("layer(2) when the inner ones have gone", suite.layer(2), 0);
     }
 
     private static void checkLayers(int[] places, int... want) {
