@@ -383,7 +383,7 @@ public final class BoundaryTest {
         Due.is("of one", Due.with(Shapes.ONE).triangle(), 0);
         Due.is("of two", Due.with(0, 4095).triangle(), 0);
         Due.is("of 24 at one place", Due.with(Shapes.HEAP).triangle(), 0);
-        Due.is("of 24 at two places", Due.with(0, 4095, 0, 4095, 4095).triangle(), 0);
+        Due.is("of five at two places", Due.with(0, 4095, 0, 4095, 4095).triangle(), 0);
         for (int[] line : Shapes.LINES) {
             Due.is("of 24 on a line", Due.with(line).triangle(), 0);
         }
